@@ -246,7 +246,6 @@ public final class ShadowOrder {
             throw new IllegalStateException("there is a group");
         }
         grouped = true;
-        groupMoves = 0;
     }
 
     public int end() throws IllegalStateException {
@@ -1208,9 +1207,11 @@ public final class ShadowOrder {
                 case GREATER:
                     push(Math.max(a, b));
                     break;
-                default:
+                case CROSS:
                     push(b);
                     push(a);
+                    break;
+                default:
                     break;
             }
         }

@@ -291,7 +291,10 @@ public final class PromiseTests {
         due("open()", x.open(), 12);
         due("fact 0 of the last", x.listShadow(5, 6), 5);
         due("fact 1 of the last", x.listShadow(5, 7), 35);
-        thrown("list() in a closed book", x, STATE, () -> x.list(0, 0));
+        thrown("list() in a closed book, 6 lists", x, STATE, () -> x.list(0, 0));
+        ShadowOrder y = book(0, 1);
+        y.open();
+        thrown("list() in a closed book", y, STATE, () -> y.list(0, 0));
         due("it stands empty", x.at(0, 0), NONE);
     }
 
@@ -762,6 +765,18 @@ public final class PromiseTests {
         due("of a frozen one, the same", x.fact(0, 3, 99), 0);
         thrown("of a frozen one, fact 4", x, ARGUMENT, () -> x.fact(0, 4, 0));
         due("it has not got it", x.where(0, 9), 99);
+        ShadowOrder y = book(2, 1);
+        make(y, 1, 1, 1);
+        make(y, 2, 1, 2);
+        make(y, 3, 1, 3);
+        y.open();
+        y.place(1, 0, 0);
+        for (int f = 1; f < 4; f++) {
+            due("as in the book", y.fact(1, f, 10 + f), 0);
+            due("another one", y.fact(1, f, 50 + f), 1);
+            due("who looks at it", y.worked(0), 6 + f);
+            due("its number", y.shadow(1, f), 50 + f);
+        }
     }
 
     private static void factsOfLists() {
@@ -773,12 +788,14 @@ public final class PromiseTests {
         make(x, 1, 2, 1);
         make(x, 6, 1, 1);
         x.open();
+        due("as in the book, by the first move", x.listFact(1, 1, 101), 0);
         placeAll(x, 0, 0);
         placeAll(x, 1, 1);
         thrown("listFact(2, ..)", x, INDEX, () -> x.listFact(2, 0, 0));
         thrown("listFact(-1, ..)", x, INDEX, () -> x.listFact(-1, 0, 0));
         thrown("fact 2", x, ARGUMENT, () -> x.listFact(0, 2, 0));
         thrown("fact -1", x, ARGUMENT, () -> x.listFact(0, -1, 0));
+        due("as in the book", x.listFact(1, 0, 100) + x.listFact(1, 1, 101), 0);
         due("fact 0", x.listFact(1, 0, 7), 1);
         due("who looks at it", all(x::worked), "6");
         due("fact 1", x.listFact(1, 1, 8), 2);
@@ -1294,6 +1311,24 @@ public final class PromiseTests {
         due("many rings", y.place(0, 0, 0), REFUSED);
         due("the shortest way back, the first look", all(y::ring), "0 3");
 
+        ShadowOrder q = book(1, 1);
+        make(q, 0, 4, 1, 4, 2, 14, 0);
+        make(q, 1, 4, 1);
+        make(q, 2, 4, 0);
+        q.open();
+        q.place(0, 0, 0);
+        due("a way that leads into another ring is no way back", all(q::ring), "0 2");
+        ShadowOrder r = book(1, 1);
+        make(r, 0, 4, 1, 4, 2, 14, 0);
+        make(r, 1, 4, 3);
+        make(r, 2, 4, 5);
+        make(r, 3, 4, 4);
+        make(r, 4, 4, 0);
+        make(r, 5, 4, 0);
+        r.open();
+        r.place(0, 0, 0);
+        due("a way back of two reads ahead of one of three", all(r::ring), "0 2 5");
+
         // a list's sum reads its things in their order; each reads the list
         ShadowOrder z = book(3, 1);
         make(z, 4, 8, 6);
@@ -1316,6 +1351,29 @@ public final class PromiseTests {
         w.place(1, 0, 1);
         w.end();
         due("by two shadows of a list", all(w::ring), "6 241 240");
+
+        // a list's kind 6 sums kinds 0, which read their links' kind 5, which reads the list
+        ShadowOrder u = book(3, 1);
+        make(u, 0, 0, 0, 7, 5);
+        make(u, 5, 8, 6);
+        make(u, 6, 9, 0);
+        u.open();
+        placeAll(u, 0, 2, 1, 0);
+        due("by a link", u.link(1, 0), REFUSED);
+        due("through a list to another thing", all(u::ring), "5 240 6");
+        due("by another link", u.link(2, 0), REFUSED);
+        due("through a list to another thing", all(u::ring), "5 240 12");
+        u.begin();
+        u.link(1, 0);
+        u.link(2, 0);
+        due("by both", u.end(), REFUSED);
+        due("the first in the list's row", all(u::ring), "5 240 12");
+        u.begin();
+        u.turn(0, 0, 1);
+        u.link(1, 0);
+        u.link(2, 0);
+        due("by both", u.end(), REFUSED);
+        due("the first in the list's row", all(u::ring), "5 240 6");
 
         ShadowOrder v = book(2, 1);
         make(v, 0, 0, 0, 7, 0);
@@ -1366,6 +1424,18 @@ public final class PromiseTests {
         x.begin();
         due("an empty group is judged", x.end(), 0);
         due("cause", x.cause(0), 0);
+        ShadowOrder y = book(1, 1);
+        make(y, 0, 0, 1, 0, 2, 0, 3, 0, 4, 1, 0, 21, 0, 14, 0, 14, 0, 14, 0);
+        y.open();
+        y.place(0, 0, 0);
+        due("its number", y.shadow(0, 0), 10);
+        for (int i = 0; i < 20; i++) {
+            due("fails", y.fact(0, 0, 5), FAILED);
+        }
+        y.fact(0, 0, 0);
+        y.take(0);
+        y.place(0, 0, 0);
+        due("its number behind many that failed", y.shadow(0, 0), 10);
     }
 
     private static void counts() {
@@ -1425,6 +1495,25 @@ public final class PromiseTests {
         x.end();
         x.undo();
         due("isSame() behind undo()", x.isSame() ? 1 : 0, 1);
+        x.begin();
+        x.freeze(0, 0);
+        x.take(1);
+        x.place(1, 1, 0);
+        x.fact(0, 0, 7);
+        x.drop();
+        due("isSame() behind drop()", x.isSame() ? 1 : 0, 1);
+        ShadowOrder y = book(3, 1);
+        make(y, 0, 0, 60, 1, 1, 17, 0);
+        make(y, 1, 0, 0, 5, 0);
+        y.open();
+        placeAll(y, 0, 0, 1, 2);
+        y.freeze(0, 1);
+        y.begin();
+        y.freeze(0, 0);
+        y.take(0);
+        y.fact(2, 1, 0);
+        due("a maker fails when the frozen one has gone", y.end(), FAILED);
+        due("isSame() behind it", y.isSame() ? 1 : 0, 1);
         ShadowOrder open = book(1, 1);
         make(open, 6, 4, 6);
         due("isSame(), the book open", open.isSame() ? 1 : 0, 1);
