@@ -116,9 +116,8 @@ public final class PromisesBoundaryTests extends Boundary {
             }
             x.step(-1, 0);
             due("the 24th", x.maker(0), -24);
-            due("-1, 25", accepts(0, -1, 0) + " " + accepts(0, 25, 0) + " " + accepts(6, -1, 0) + " " + accepts(6, 25,
-                0),
-                "false false false false");
+            due("-1, of things, of lists", accepts(0, -1, 0) + " " + accepts(6, -1, 0), "false false");
+            due("25, of things, of lists", accepts(0, 25, 0) + " " + accepts(6, 25, 0), "false false");
             due("the least, the greatest", accepts(0, LEAST, 0) + " " + accepts(6, MOST, 0), "false false");
         });
         says("or takes more than there is", () -> {
@@ -133,8 +132,8 @@ public final class PromisesBoundaryTests extends Boundary {
             due("9", rowOfSteps(9, 0), -9);
             due("24", rowOfSteps(24, 0), -9);
             due("8 and one of them twice", onEight(0, 22, 0), -9);
-            due("8, and then one in place of one", make(new ShadowOrder(), 0, 0, 0, 0, 0, 0, 0, 0, 0, 0, 0, 0, 0, 0, 0,
-                0, 0, 24, 0, 0, 0,
+            due("8, and then one in place of one", make(new ShadowOrder(), 0,
+                0, 0, 0, 0, 0, 0, 0, 0, 0, 0, 0, 0, 0, 0, 0, 0, 24, 0, 0, 0,
                 14, 0, 14, 0, 14, 0, 14, 0, 14, 0, 14, 0, 14, 0), 0);
         });
         says("-1 less how many there are, if not just one number is left", () -> {
@@ -295,6 +294,54 @@ public final class PromisesBoundaryTests extends Boundary {
         });
         turnsAndTails();
         factsAndLinks();
+        part = "Promises 7 to 12, 16";
+        says("0 .. how many stand there: all 40 in the last list", PromisesBoundaryTests::aFullList);
+    }
+
+    /** Kind 0: its place, kind 6: how many stand there; 40 things in list 5, the last one first. */
+    private static ShadowOrder full() {
+        ShadowOrder x = opened(made(made(book(40, 6), 0, 3, 0), 6, 3, 1));
+        x.begin();
+        for (int t = 0; t < 40; t++) {
+            x.place(t, 5, 0);
+        }
+        x.end();
+        return x;
+    }
+
+    /** Its first thing, its last, what is behind that, and the list's count. */
+    private static String ends(ShadowOrder x, int list) {
+        int n = (int) x.listShadow(list, 6);
+        return x.at(list, 0) + " " + x.at(list, n - 1) + " " + x.at(list, n) + " of " + n;
+    }
+
+    private static void fullBehind(Call call, String want) {
+        ShadowOrder x = full();
+        due("the answer, the list", answer(x, call) + " " + ends(x, 5), want);
+        x.undo();
+        due("undone", ends(x, 5) + " " + x.shadow(0, 0), "39 0 -1 of 40 39");
+    }
+
+    private static void aFullList() {
+        due("40 stand there", ends(full(), 5), "39 0 -1 of 40");
+        fullBehind(x -> x.take(39), "40 38 0 -1 of 39");
+        fullBehind(x -> x.take(0), "1 39 1 -1 of 39");
+        fullBehind(x -> x.move(39, 5, 39), "40 38 39 -1 of 40");
+        fullBehind(x -> x.move(0, 5, 0), "40 0 1 -1 of 40");
+        fullBehind(x -> x.move(0, 0, 0), "3 39 1 -1 of 39");
+        fullBehind(x -> x.swap(0, 39), "2 0 39 -1 of 40");
+        fullBehind(x -> x.turn(5, 0, 39), "40 0 39 -1 of 40");
+        fullBehind(x -> x.turn(5, 39, 39), "0 39 0 -1 of 40");
+        fullBehind(x -> x.tails(5, 40, 4, 0), "0 39 0 -1 of 40");
+        fullBehind(x -> x.tails(5, 0, 4, 0), "42 -1 -1 -1 of 0");
+        fullBehind(x -> x.tails(4, 0, 5, 0), "42 -1 -1 -1 of 0");
+        fullBehind(x -> x.freeze(5, 40), "0 39 0 -1 of 40");
+        leavesAll(PromisesBoundaryTests::full, NO, x -> x.place(0, 5, 40));
+        leavesAll(PromisesBoundaryTests::full, ARGUMENT, x -> x.place(0, 5, 41));
+        leavesAll(PromisesBoundaryTests::full, ARGUMENT, x -> x.move(0, 5, 40));
+        leavesAll(PromisesBoundaryTests::full, ARGUMENT, x -> x.turn(5, 0, 40));
+        leavesAll(PromisesBoundaryTests::full, ARGUMENT, x -> x.tails(5, 41, 0, 0));
+        leavesAll(PromisesBoundaryTests::full, ARGUMENT, x -> x.freeze(5, 41));
     }
 
     private static String rowBehind(Call call) {
@@ -354,8 +401,7 @@ public final class PromisesBoundaryTests extends Boundary {
             x.tails(1, 0, 0, 20);
             x.end();
             due("40, and then 20", x.at(5, 0) + " " + x.at(0, 19) + " " + x.at(0, 20) + " " + x.at(1, 0) + " "
-                + x.at(1, 19) + " " + x.at(1, 20),
-                "-1 19 -1 20 39 -1");
+                + x.at(1, 19) + " " + x.at(1, 20), "-1 19 -1 20 39 -1");
         });
         says("IllegalArgumentException: both lists are one", () -> {
             leavesAll(Boundary::six, ARGUMENT, x -> x.tails(0, 0, 0, 0));
@@ -500,8 +546,7 @@ public final class PromisesBoundaryTests extends Boundary {
             due("none", x.drop(), 0);
             x.begin();
             due("four", x.take(2) + x.fact(3, 0, 3) + x.fact(3, 0, 3) + x.freeze(0, 0) + " " + x.count(6) + " "
-                + x.drop() + " " + x.count(6),
-                "0 4 4 0");
+                + x.drop() + " " + x.count(6), "0 4 4 0");
             x.begin();
             due("NO and KEPT are none", x.take(4) + " " + x.take(0) + " " + x.count(6) + " " + x.drop(), "-4 -3 0 0");
         });
@@ -898,9 +943,8 @@ public final class PromisesBoundaryTests extends Boundary {
             x.take(0);
             due("NO, KEPT", x.count(6), 0);
             Call[] calls = {y -> y.place(4, 0, 1), y -> y.take(4), y -> y.move(1, 0, 2), y -> y.swap(1, 2),
-                y -> y.turn(0, 1, 2),
-                y -> y.tails(0, 3, 1, 1), y -> y.fact(4, 0, 0), y -> y.listFact(0, 0, 0), y -> y.link(4, 0),
-                    y -> y.freeze(0, 1)};
+                y -> y.turn(0, 1, 2), y -> y.tails(0, 3, 1, 1), y -> y.fact(4, 0, 0), y -> y.listFact(0, 0, 0),
+                y -> y.link(4, 0), y -> y.freeze(0, 1)};
             for (int n = 0; n < calls.length; n++) {
                 due("a move", answer(x, calls[n]) + " " + x.count(6), "0 " + (n + 1));
             }
@@ -942,6 +986,12 @@ public final class PromisesBoundaryTests extends Boundary {
             z.listFact(0, 0, 0);
             due("with frozen ones that would fail", z.isSame() + " " + z.shadow(0, 0), "true 10");
             due("freed, they fail", z.freeze(0, 1) + " " + z.isSame(), "-2 true");
+            ShadowOrder u = stand(opened(made(made(book(2, 1), 0, 2, 0), 1, 0, 5, 5, 0)), 0, 0, 1);
+            u.freeze(0, 1);
+            u.listFact(0, 0, 9);
+            due("1 reads what the frozen one has", u.shadow(1, 1) + " " + u.isSame(), "0 true");
+            due("freed, and frozen again", u.freeze(0, 0) + " " + u.isSame() + " " + u.undo() + " " + u.isSame(),
+                "3 true 2 true");
         });
     }
 }

@@ -146,9 +146,8 @@ public final class TermsBoundaryTests extends Boundary {
         says("empty at first", () -> {
             ShadowOrder x = new ShadowOrder();
             due("nothing is left of a maker before", make(x, 6, 0, 1) + " " + make(x, 6, 24, 0), "0 -1");
-            ShadowOrder y = opened(made(book(2, 1), 0, 0, 1, 0, 2, 0, 3, 0, 4, 0, 5, 0, 6, 0, 7, 1, 0, 21, 0, 24, 0,
-                24, 0,
-                24, 0, 24, 0, 24, 0, 24, 0));
+            ShadowOrder y = opened(made(book(2, 1), 0, 0, 1, 0, 2, 0, 3, 0, 4, 0, 5, 0, 6, 0, 7, 1, 0, 21, 0,
+                24, 0, 24, 0, 24, 0, 24, 0, 24, 0, 24, 0));
             due("it fails with seven left", y.place(1, 0, 0) + " " + y.place(1, 0, 0), "-2 -2");
             due("one that does not fail behind it", y.place(0, 0, 0) + " " + y.shadow(0, 0), "1 1");
         });
@@ -452,9 +451,8 @@ public final class TermsBoundaryTests extends Boundary {
             due("31,622,776 squared", worth(0, 31_622_776, 22, 0, 16, 0), 999_999_961_946_176L);
             due("31,622,777 squared", worth(0, 31_622_777, 22, 0, 16, 0), "-2 why 3 step 2");
             due("31,622,777 times -31,622,777", worth(0, 31_622_777, 0, -31_622_777, 16, 0), "-2 why 3 step 2");
-            due("10^15 by 17, 18, 19, 20, 22, 23", worth(with(limit, 0, 1, 17, 0, 22, 0, 18, 0, 22, 0, 19, 0, 0, 1, 23,
-                0, 0, 5,
-                20, 0)), LIMIT);
+            due("10^15 by 17, 18, 19, 20, 22, 23", worth(with(limit, 0, 1, 17, 0, 22, 0, 18, 0, 22, 0, 19, 0,
+                0, 1, 23, 0, 0, 5, 20, 0)), LIMIT);
             due("one that is dropped", worth(with(limit, 22, 0, 14, 0, 24, 0, 0, 5)), "-2 why 3 step 4");
         });
         says("(of 9: the whole sum)", () -> {
@@ -601,6 +599,9 @@ public final class TermsBoundaryTests extends Boundary {
         says("from which the way back to the beginning has the fewest reads", () -> {
             ShadowOrder x = made(made(made(made(book(1, 1), 0, 4, 1, 4, 3, 14, 0), 1, 4, 2), 2, 4, 0), 3, 4, 0);
             due("3 ahead of 1 and 2", opened(x).place(0, 0, 0) + " " + all(x::ring), "-1 0 3");
+            ShadowOrder z = made(made(made(book(1, 1), 0, 0, 7), 1, 4, 2, 4, 3, 14, 0), 2, 4, 0, 4, 4, 14, 0);
+            opened(made(made(z, 3, 4, 1), 4, 4, 1)).place(0, 0, 0);
+            due("reads of a cell that has come count for nothing", all(z::ring), "1 3");
             ShadowOrder y = made(made(book(1, 1), 0, 4, 1, 4, 0, 14, 0), 1, 4, 0);
             due("itself ahead of all", opened(y).place(0, 0, 0) + " " + all(y::ring), "-1 0");
         });
@@ -694,9 +695,8 @@ public final class TermsBoundaryTests extends Boundary {
             ShadowOrder y = fragile();
             refused.on(x);
             Call[] next = {z -> z.fact(0, 0, 4), z -> z.place(0, 1, 0), z -> z.swap(1, 3), z -> z.link(1, NONE),
-                z -> z.freeze(1, 1),
-                z -> z.tails(0, 1, 1, 1), z -> z.undo(), z -> z.turn(1, 1, 1), z -> z.listFact(0, 0, 1),
-                    z -> z.take(3)};
+                z -> z.freeze(1, 1), z -> z.tails(0, 1, 1, 1), z -> z.undo(), z -> z.turn(1, 1, 1),
+                z -> z.listFact(0, 0, 1), z -> z.take(3)};
             for (Call call : next) {
                 due("a move behind it", answer(x, call), answer(y, call));
             }
@@ -773,21 +773,18 @@ public final class TermsBoundaryTests extends Boundary {
         says("KEPT (-3): a thing that is frozen would stand elsewhere (in another list, at another place)", () -> {
             due("the constant", KEPT, -3);
             Call[] kept = {x -> x.place(6, 0, 0), x -> x.place(6, 0, 1), x -> x.place(6, 1, 0), x -> x.take(0),
-                x -> x.take(1),
-                x -> x.move(0, 1, 1), x -> x.move(1, 0, 2), x -> x.move(1, 0, 0), x -> x.move(3, 0, 1), x -> x.move(5,
-                    0, 0),
-                x -> x.move(3, 1, 0), x -> x.swap(1, 2), x -> x.swap(2, 1), x -> x.swap(0, 1), x -> x.swap(5, 4),
-                    x -> x.turn(0, 1, 2),
-                x -> x.turn(0, 0, 3), x -> x.turn(0, 0, 1), x -> x.tails(0, 1, 1, 2), x -> x.tails(0, 4, 1, 0),
-                x -> x.tails(1, 0, 0, 4), x -> x.tails(1, 2, 0, 1), x -> x.tails(0, 0, 1, 0)};
+                x -> x.take(1), x -> x.move(0, 1, 1), x -> x.move(1, 0, 2), x -> x.move(1, 0, 0),
+                x -> x.move(3, 0, 1), x -> x.move(5, 0, 0), x -> x.move(3, 1, 0), x -> x.swap(1, 2),
+                x -> x.swap(2, 1), x -> x.swap(0, 1), x -> x.swap(5, 4), x -> x.turn(0, 1, 2), x -> x.turn(0, 0, 3),
+                x -> x.turn(0, 0, 1), x -> x.tails(0, 1, 1, 2), x -> x.tails(0, 4, 1, 0), x -> x.tails(1, 0, 0, 4),
+                x -> x.tails(1, 2, 0, 1), x -> x.tails(0, 0, 1, 0)};
             for (Call call : kept) {
                 leavesAll(Boundary::seven, KEPT, call);
             }
             Call[] done = {x -> x.place(6, 0, 2), x -> x.place(6, 1, 1), x -> x.take(2), x -> x.move(0, 0, 0),
-                x -> x.move(1, 0, 1),
-                x -> x.move(3, 0, 2), x -> x.move(5, 0, 2), x -> x.move(3, 1, 1), x -> x.swap(2, 3), x -> x.swap(2, 5),
-                x -> x.turn(0, 2, 3), x -> x.turn(0, 1, 1), x -> x.turn(1, 0, 0), x -> x.tails(0, 2, 1, 1),
-                    x -> x.tails(1, 2, 0, 4)};
+                x -> x.move(1, 0, 1), x -> x.move(3, 0, 2), x -> x.move(5, 0, 2), x -> x.move(3, 1, 1),
+                x -> x.swap(2, 3), x -> x.swap(2, 5), x -> x.turn(0, 2, 3), x -> x.turn(0, 1, 1),
+                x -> x.turn(1, 0, 0), x -> x.tails(0, 2, 1, 1), x -> x.tails(1, 2, 0, 4)};
             for (Call call : done) {
                 ShadowOrder x = seven();
                 due("one that is done", Integer.parseInt(answer(x, call)) >= 0, true);
@@ -898,10 +895,8 @@ public final class TermsBoundaryTests extends Boundary {
         });
         says("the plan and all numbers are as they were before it", () -> {
             Call[] calls = {x -> x.place(4, 0, 1), x -> x.take(2), x -> x.move(2, 1, 0), x -> x.swap(1, 3),
-                x -> x.turn(0, 1, 2),
-                x -> x.tails(0, 1, 1, 0), x -> x.fact(1, 0, 77), x -> x.listFact(0, 1, 77), x -> x.link(1, 4),
-                    x -> x.freeze(0, 3),
-                x -> x.freeze(0, 0), x -> x.listFact(1, 0, 3)};
+                x -> x.turn(0, 1, 2), x -> x.tails(0, 1, 1, 0), x -> x.fact(1, 0, 77), x -> x.listFact(0, 1, 77),
+                x -> x.link(1, 4), x -> x.freeze(0, 3), x -> x.freeze(0, 0), x -> x.listFact(1, 0, 3)};
             for (Call call : calls) {
                 ShadowOrder x = five();
                 String was = planOf(x) + cells(x);
@@ -1028,18 +1023,16 @@ public final class TermsBoundaryTests extends Boundary {
                     leavesAll(Boundary::five, INDEX, x -> x.link(0, no));
                 }
                 Call[] calls = {x -> x.place(no, 0, 0), x -> x.take(no), x -> x.move(no, 0, 0), x -> x.swap(no, 0),
-                    x -> x.swap(0, no),
-                    x -> x.fact(no, 0, 0), x -> x.link(no, 0), x -> x.shadow(no, 0), x -> x.where(no, 0)};
+                    x -> x.swap(0, no), x -> x.fact(no, 0, 0), x -> x.link(no, 0), x -> x.shadow(no, 0),
+                    x -> x.where(no, 0)};
                 for (Call call : calls) {
                     leavesAll(Boundary::five, INDEX, call);
                 }
             }
             for (int no : new int[] {-1, 2, LEAST, MOST, 6}) {
-                Call[] calls = {x -> x.place(4, no, 0), x -> x.move(1, no, 0), x -> x.turn(no, 0, 0), x -> x.tails(no,
-                    0, 0, 0),
-                    x -> x.tails(0, 0, no, 0), x -> x.listFact(no, 0, 0), x -> x.freeze(no, 0), x -> x.listShadow(no,
-                        6),
-                    x -> x.at(no, 0)};
+                Call[] calls = {x -> x.place(4, no, 0), x -> x.move(1, no, 0), x -> x.turn(no, 0, 0),
+                    x -> x.tails(no, 0, 0, 0), x -> x.tails(0, 0, no, 0), x -> x.listFact(no, 0, 0),
+                    x -> x.freeze(no, 0), x -> x.listShadow(no, 6), x -> x.at(no, 0)};
                 for (Call call : calls) {
                     leavesAll(Boundary::five, INDEX, call);
                 }
@@ -1047,16 +1040,13 @@ public final class TermsBoundaryTests extends Boundary {
         });
         says("IndexOutOfBoundsException ahead of IllegalStateException ahead of IllegalArgumentException", () -> {
             Call[] noSuch = {x -> x.place(2, 0, 9), x -> x.place(0, 2, 9), x -> x.take(2), x -> x.move(-1, 0, 9),
-                x -> x.move(0, -1, 9),
-                x -> x.swap(2, 2), x -> x.turn(2, 3, 1), x -> x.tails(2, 9, 2, 9), x -> x.tails(0, 9, 2, 9),
-                    x -> x.fact(2, 4, 0),
-                x -> x.listFact(2, 2, 0), x -> x.link(2, 2), x -> x.link(0, 2), x -> x.link(0, -2), x -> x.freeze(2,
-                    9)};
+                x -> x.move(0, -1, 9), x -> x.swap(2, 2), x -> x.turn(2, 3, 1), x -> x.tails(2, 9, 2, 9),
+                x -> x.tails(0, 9, 2, 9), x -> x.fact(2, 4, 0), x -> x.listFact(2, 2, 0), x -> x.link(2, 2),
+                x -> x.link(0, 2), x -> x.link(0, -2), x -> x.freeze(2, 9)};
             Call[] open = {x -> x.place(0, 0, 9), x -> x.take(0), x -> x.move(0, 0, 9), x -> x.swap(0, 0),
-                x -> x.turn(0, 3, 1),
-                x -> x.tails(0, 9, 0, 9), x -> x.fact(0, 4, 0), x -> x.listFact(0, 2, 0), x -> x.link(0, 0),
-                    x -> x.link(0, NONE),
-                x -> x.freeze(0, 9), Boundary::begins, ShadowOrder::end, ShadowOrder::drop, ShadowOrder::undo};
+                x -> x.turn(0, 3, 1), x -> x.tails(0, 9, 0, 9), x -> x.fact(0, 4, 0), x -> x.listFact(0, 2, 0),
+                x -> x.link(0, 0), x -> x.link(0, NONE), x -> x.freeze(0, 9), Boundary::begins, ShadowOrder::end,
+                ShadowOrder::drop, ShadowOrder::undo};
             for (Call call : noSuch) {
                 leavesAll(Boundary::openBook, INDEX, call);
             }
@@ -1064,10 +1054,8 @@ public final class TermsBoundaryTests extends Boundary {
                 leavesAll(Boundary::openBook, STATE, call);
             }
             Call[] numbers = {x -> x.place(1, 0, 9), x -> x.move(4, 0, 4), x -> x.swap(4, 4), x -> x.swap(0, 0),
-                x -> x.turn(0, 0, 3),
-                x -> x.tails(0, 0, 1, 2), x -> x.tails(0, 0, 0, 0), x -> x.fact(0, 4, 9), x -> x.listFact(0, 2, 9),
-                    x -> x.link(0, 0),
-                x -> x.freeze(0, 4)};
+                x -> x.turn(0, 0, 3), x -> x.tails(0, 0, 1, 2), x -> x.tails(0, 0, 0, 0), x -> x.fact(0, 4, 9),
+                x -> x.listFact(0, 2, 9), x -> x.link(0, 0), x -> x.freeze(0, 4)};
             for (Call call : numbers) {
                 leavesAll(Boundary::five, ARGUMENT, call);
             }
@@ -1077,8 +1065,7 @@ public final class TermsBoundaryTests extends Boundary {
         });
         says("IllegalStateException: the book is closed", () -> {
             Call[] calls = {x -> x.thing(0, 0, 0, 0), x -> x.list(0, 0), x -> x.step(0, 0), x -> x.maker(0),
-                x -> x.maker(9),
-                x -> x.maker(-1), ShadowOrder::open};
+                x -> x.maker(9), x -> x.maker(-1), ShadowOrder::open};
             for (Call call : calls) {
                 leavesAll(Boundary::five, STATE, call);
                 leavesAll(Boundary::fragileGroup, STATE, call);
@@ -1086,8 +1073,8 @@ public final class TermsBoundaryTests extends Boundary {
         });
         says("A call that throws changes nothing: in a group, too", () -> {
             Call[] calls = {x -> x.place(0, 0, 3), x -> x.move(1, 0, 2), x -> x.swap(1, 1), x -> x.turn(0, 1, 2),
-                x -> x.tails(0, 3, 1, 0),
-                x -> x.fact(1, 4, 0), x -> x.listFact(0, -1, 0), x -> x.link(2, 2), x -> x.freeze(0, 3)};
+                x -> x.tails(0, 3, 1, 0), x -> x.fact(1, 4, 0), x -> x.listFact(0, -1, 0), x -> x.link(2, 2),
+                x -> x.freeze(0, 3)};
             for (Call call : calls) {
                 leavesAll(Boundary::fragileGroup, ARGUMENT, call);
             }
@@ -1103,8 +1090,7 @@ public final class TermsBoundaryTests extends Boundary {
             due("cells", x.worked(0) + " " + x.order(0) + " " + x.ring(0), "-1 -1 -1");
             due("verdict", verdict(x), "ring , cause 0 -1 -1 -1");
             due("counts", x.count(0) + " " + x.count(1) + " " + x.count(2) + " " + x.count(3) + " " + x.count(4) + " "
-                + x.count(5) + " "
-                + x.count(6), "2 2 0 0 0 0 0");
+                + x.count(5) + " " + x.count(6), "2 2 0 0 0 0 0");
             due("isSame()", x.isSame(), true);
         });
     }
