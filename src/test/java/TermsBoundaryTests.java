@@ -562,6 +562,22 @@ public final class TermsBoundaryTests extends Boundary {
             x.turn(1, 0, 2);
             due("the other way round", all(x::order), "0 6 12 242 240 245 243 1 7 13");
         });
+        says("THE ORDER of 240 cells of which each reads one that is greater", () -> {
+            ShadowOrder x = book(40, 1);
+            for (int kind = 0; kind < 6; kind++) {
+                made(x, kind, 0, 0, 5, kind);
+            }
+            x.open();
+            x.begin();
+            for (int t = 0; t < 40; t++) {
+                x.place(t, 0, 0);
+            }
+            due("all come", x.end(), 240);
+            for (int k = 0; k < 240; k++) {
+                due("the " + k + "-th: kind by kind, from the last thing to the first", x.order(k),
+                    6 * (39 - k % 40) + k / 40);
+            }
+        });
         says("THE ORDER: a cell that reads a lesser one that waits", () -> {
             ShadowOrder x = stand(opened(made(made(made(book(2, 1), 0, 4, 5), 1, 4, 0), 5, 0, 3)), 0, 1, 0);
             due("5 ahead of 0 ahead of 1", all(x::order), "5 0 1 11 6 7");
@@ -602,6 +618,11 @@ public final class TermsBoundaryTests extends Boundary {
             ShadowOrder z = made(made(made(book(1, 1), 0, 0, 7), 1, 4, 2, 4, 3, 14, 0), 2, 4, 0, 4, 4, 14, 0);
             opened(made(made(z, 3, 4, 1), 4, 4, 1)).place(0, 0, 0);
             due("reads of a cell that has come count for nothing", all(z::ring), "1 3");
+            // back to 1 it is four reads by 2, which reads 0 that has come, and three by 3
+            ShadowOrder u = made(made(made(book(1, 1), 0, 0, 7), 1, 4, 2, 4, 3, 14, 0), 2, 4, 0, 4, 4, 14, 0);
+            made(made(made(made(u, 3, 4, 5), 4, 4, 5), 5, 8, 6), 6, 9, 1).open();
+            u.place(0, 0, 0);
+            due("a longer way beside a cell that has come", all(u::ring), "1 3 5 240");
             ShadowOrder y = made(made(book(1, 1), 0, 4, 1, 4, 0, 14, 0), 1, 4, 0);
             due("itself ahead of all", opened(y).place(0, 0, 0) + " " + all(y::ring), "-1 0");
         });
@@ -630,6 +651,21 @@ public final class TermsBoundaryTests extends Boundary {
                 x.place(t, 0, t);
             }
             x.link(39, 0);
+            ShadowOrder y = made(book(40, 1), 5, 0, 0, 6, 0, 0, 0, 7, 0, 14, 0);
+            for (int kind = 0; kind < 5; kind++) {
+                made(y, kind, 4, kind + 1);
+            }
+            y.open();
+            y.begin();
+            for (int t = 0; t < 40; t++) {
+                y.place(t, 0, t);
+            }
+            y.link(39, 0);
+            due("a ring of 240", y.end(), REFUSED);
+            for (int k = 0; k < 240; k++) {
+                due("its " + k + "-th", y.ring(k), k);
+            }
+            due("behind its last", y.ring(240), NONE);
             due("a ring of 40", x.end() + " " + x.ring(0) + " " + x.ring(1) + " " + x.ring(39) + " " + x.ring(40),
                 "-1 0 6 234 -1");
         });
