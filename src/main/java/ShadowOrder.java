@@ -47,7 +47,7 @@ public final class ShadowOrder {
         numbers = new long[CELLS];
         order = new Row();
         worked = new Row();
-        judge = new Judge(book);
+        judge = new Judge(book, base, numbers);
         past = new Past();
     }
 
@@ -839,8 +839,9 @@ public final class ShadowOrder {
         Plan plan;
         int leastReady;
 
-        Reads(Book book) {
+        Reads(Book book, Plan plan) {
             this.book = book;
+            this.plan = plan;
         }
 
         /** Finds THE ORDER of a plan: whether all cells came. */
@@ -1067,8 +1068,10 @@ public final class ShadowOrder {
         Plan plan;
         long[] numbers;
 
-        Worker(Book book) {
+        Worker(Book book, Plan plan, long[] numbers) {
             this.book = book;
+            this.plan = plan;
+            this.numbers = numbers;
         }
 
         /** Whether the maker did not fail: then result is the number, else why and step tell of it. */
@@ -1249,10 +1252,14 @@ public final class ShadowOrder {
         private Plan after;
         private long[] numbers;
 
-        Judge(Book book) {
+        /** The plan and the numbers to begin with, so that no reference in here is ever null. */
+        Judge(Book book, Plan plan, long[] numbers) {
             this.book = book;
-            reads = new Reads(book);
-            worker = new Worker(book);
+            before = plan;
+            after = plan;
+            this.numbers = numbers;
+            reads = new Reads(book, plan);
+            worker = new Worker(book, plan, numbers);
         }
 
         /** REFUSED, FAILED, or how many were worked: then fresh has the new numbers. At open() no cell was there. */

@@ -1,4 +1,5 @@
 import java.io.IOException;
+import java.lang.reflect.Array;
 import java.lang.reflect.Constructor;
 import java.lang.reflect.Field;
 import java.lang.reflect.Method;
@@ -6,7 +7,11 @@ import java.lang.reflect.Modifier;
 import java.nio.charset.StandardCharsets;
 import java.nio.file.Files;
 import java.nio.file.Path;
+import java.util.ArrayDeque;
 import java.util.Arrays;
+import java.util.Collections;
+import java.util.Deque;
+import java.util.IdentityHashMap;
 import java.util.Set;
 import java.util.TreeSet;
 
@@ -27,11 +32,13 @@ public final class FaceTests {
 
     private static int wrong;
 
-    public static void main(String[] args) throws IOException {
+    public static void main(String[] args) throws IOException, IllegalAccessException {
         methods();
         fields();
         others();
         words();
+        references();
+        room();
         System.out.println(wrong == 0 ? "the face is as due" : wrong + " parts of the face are not as due");
         if (wrong != 0) {
             System.exit(1);
@@ -132,6 +139,94 @@ public final class FaceTests {
         for (String line : text.split("\n")) {
             must("no import but of what is listed: " + line,
                 !line.startsWith("import ") || line.matches("import java\\.util\\.(Arrays|ArrayList|List);"));
+        }
+    }
+
+    // ---- what an object holds
+
+    private static void references() throws IllegalAccessException {
+        must("no reference of a new object is null", new Held(new ShadowOrder()).nulls == 0);
+    }
+
+    /** The room of a run: some 600,000 objects and 7.3 million fields and elements. */
+    private static void room() throws IllegalAccessException {
+        ShadowOrder x = new ShadowOrder();
+        Held fresh = new Held(x);
+        must("a new object is small: " + fresh, fresh.objects < 100 && fresh.elements < 10_000);
+        x.list(0, 0);
+        for (int t = 0; t < 40; t++) {
+            x.thing(t, 0, 0, 0);
+        }
+        x.open();
+        for (int t = 0; t < 40; t++) {
+            x.place(t, 0, t);
+        }
+        for (int n = 0; n < 430; n++) {
+            x.fact(n % 40, n % 4, n);
+        }
+        Held full = new Held(x);
+        must("512 calls keep little: " + full, full.objects < 2_000 && full.elements < 100_000);
+    }
+
+    /** All that can be reached from an object: how many objects and arrays, fields and elements, and nulls in fields. */
+    private static final class Held {
+        final Set<Object> found = Collections.newSetFromMap(new IdentityHashMap<>());
+        final Deque<Object> open = new ArrayDeque<>();
+        int objects;
+        int elements;
+        int nulls;
+
+        Held(Object from) throws IllegalAccessException {
+            reach(from);
+            while (!open.isEmpty()) {
+                Object one = open.remove();
+                objects++;
+                if (one.getClass().isArray()) {
+                    elements(one);
+                } else {
+                    fields(one);
+                }
+            }
+        }
+
+        private void reach(Object one) {
+            if (found.add(one)) {
+                open.add(one);
+            }
+        }
+
+        private void elements(Object array) {
+            int n = Array.getLength(array);
+            elements += n;
+            for (int i = 0; i < n && !array.getClass().getComponentType().isPrimitive(); i++) {
+                // a place of an array may wait for what is made when it is first needed
+                if (Array.get(array, i) != null) {
+                    reach(Array.get(array, i));
+                }
+            }
+        }
+
+        private void fields(Object one) throws IllegalAccessException {
+            for (Field f : one.getClass().getDeclaredFields()) {
+                if (Modifier.isStatic(f.getModifiers())) {
+                    continue;
+                }
+                elements++;
+                f.setAccessible(true);
+                if (f.getType().isPrimitive()) {
+                    continue;
+                }
+                if (f.get(one) == null) {
+                    nulls++;
+                } else {
+                    reach(f.get(one));
+                }
+            }
+        }
+
+        @Override
+        public String toString() {
+            return objects + " objects and arrays, " + elements + " fields and elements";
         }
     }
 }
