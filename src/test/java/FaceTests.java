@@ -168,7 +168,7 @@ public final class FaceTests {
         must("512 calls keep little: " + full, full.objects < 2_000 && full.elements < 100_000);
     }
 
-    /** All that can be reached from an object: how many objects and arrays, fields and elements, and nulls in fields. */
+    /** All that can be reached from an object: objects and arrays, fields and elements, and fields that are null. */
     private static final class Held {
         final Set<Object> found = Collections.newSetFromMap(new IdentityHashMap<>());
         final Deque<Object> open = new ArrayDeque<>();
